@@ -190,6 +190,9 @@ public final class ModelTest {
                 case 5, 6, 7 -> x.begin(t);
                 case 8 -> x.holds(t);
                 case 9 -> x.read(cell);
+                case 10 -> x.checkpoint();
+                case 11 -> x.crash();
+                case 12, 13, 14, 15, 16 -> x.write(t, cell, i);
                 default -> x.add(t, cell, i);
             }
         }
